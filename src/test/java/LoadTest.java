@@ -181,7 +181,7 @@ public final class LoadTest {
             Check.due("depth(0, 2)", x.depth(0, 2), 1);
             Check.due("type(0, 2, 0)", x.type(0, 2, 0), 8);
             Check.due("state()", x.state(), 1);
-            Check.due("look(1)", x.look(1), 8 + 1 - 1);
+            Check.due("look(1)", x.look(1), 8);
             Check.due("look(4)", x.look(4), 1);
             Check.due("entered(0, 0)", x.entered(0, 0), 1);
         }
