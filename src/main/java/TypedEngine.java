@@ -487,7 +487,6 @@ public final class TypedEngine {
         }
 
         private void readMethod(Image image, Method method) {
-            method.isVerified = false;
             method.result = nextIs(Type.NOTHING) ? number(0, 0) : keptType(image);
             method.argumentCount = number(0, Method.ARGUMENTS_MOST);
             for (int k = 0; k < method.argumentCount; k++) {
@@ -627,13 +626,21 @@ public final class TypedEngine {
         private boolean follow(int p) {
             int op = method.codeAt(p);
             int k = method.codeAt(p + 1);
-            int left = rowBehind(op, k, method.rowAt(p));
-            if (left == Row.NONE || !liesWhereItMay(op, p) || !reachHandlers(p)) {
-                return false;
+            int row = method.rowAt(p);
+            int left;
+            if (op <= Op.LESS) {
+                left = rowBehindSimple(op, k, row);
+            } else if (op <= Op.SIZE) {
+                left = rowBehindThing(op, k, row);
+            } else if (op <= Op.OPEN) {
+                left = rowBehindValue(op, row);
+            } else {
+                left = rowBehindFlow(op, k, row);
             }
-            if (op == Op.CALL) {
-                method.calls |= 1 << k;
-            }
+            return left != Row.NONE && liesWhereItMay(op, p) && reachHandlers(p) && reachNext(p, op, k, left);
+        }
+
+        private boolean reachNext(int p, int op, int k, int left) {
             int target = p + 2 + Op.signed(k);
             if (op == Op.LEAVE) {
                 return mayLeave(p, target) && reach(target, Row.EMPTY);
@@ -665,11 +672,8 @@ public final class TypedEngine {
             return true;
         }
 
+        /** Reaches the next one, if an instruction at p may go on there but by a leave. */
         private boolean goOn(int p, int next, int row) {
-            return mayGoOn(p, next, row) && reach(next, row);
-        }
-
-        private boolean mayGoOn(int p, int next, int row) {
             int parts = method.partsAt(p);
             int partsNext = method.partsAt(next);
             if (method.handlersAt(p) != method.handlersAt(next) || (parts & ~partsNext) != 0) {
@@ -681,7 +685,7 @@ public final class TypedEngine {
                     return false;
                 }
             }
-            return true;
+            return reach(next, row);
         }
 
         private boolean mayLeave(int p, int target) {
@@ -699,8 +703,10 @@ public final class TypedEngine {
             return true;
         }
 
-        /** The row that the instruction leaves; NONE if it lacks what it takes or names. */
-        private int rowBehind(int op, int k, int row) {
+        // Each of these tells the row that the instruction leaves; NONE if it lacks what it takes
+        // or names.
+
+        private int rowBehindSimple(int op, int k, int row) {
             switch (op) {
                 case Op.CONST:
                     return Row.with(row, Type.NUMBER);
@@ -724,16 +730,11 @@ public final class TypedEngine {
                 case Op.DROP:
                     return Row.without(row, Row.top(row));
                 case Op.IF:
-                case Op.THROW:
                     return withoutNumbers(row, 1);
                 case Op.LESS:
                     return withoutNumbers(row, 2);
-                case Op.CALL:
-                    return rowBehindCall(image.method(k), row);
-                case Op.RETURN:
-                    return method.result == Type.NOTHING ? row : Row.without(row, method.result);
                 default:
-                    return op >= Op.NULL && op <= Op.SIZE ? rowBehindThing(op, k, row) : rowBehindValue(op, row);
+                    return row;
             }
         }
 
@@ -782,14 +783,29 @@ public final class TypedEngine {
                 case Op.OPEN:
                     return Row.with(Row.without(row, Type.BOX), Type.PAIR);
                 default:
+                    return Row.NONE;
+            }
+        }
+
+        private int rowBehindFlow(int op, int k, int row) {
+            switch (op) {
+                case Op.CALL:
+                    return rowBehindCall(k, row);
+                case Op.RETURN:
+                    return method.result == Type.NOTHING ? row : Row.without(row, method.result);
+                case Op.THROW:
+                    return withoutNumbers(row, 1);
+                default:
                     return row;
             }
         }
 
-        private static int rowBehindCall(Method called, int row) {
+        private int rowBehindCall(int m, int row) {
+            Method called = image.method(m);
             if (called == null) {
                 return Row.NONE;
             }
+            method.calls |= 1 << m;
             int left = row;
             for (int k = called.argumentCount - 1; k >= 0; k--) {
                 left = Row.without(left, called.argumentTypes[k]);
@@ -962,7 +978,6 @@ public final class TypedEngine {
             outcome = 0;
             active = 0;
             made = 0;
-            isThrowing = false;
             for (int i = 0; i < entries.length; i++) {
                 entries[i] = 0;
             }

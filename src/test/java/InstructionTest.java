@@ -242,6 +242,48 @@ public final class InstructionTest {
         String fill = "f: new 0 drop arg 0 const 1 sub dup put 0 if f";
         traps(4, 8 * 40 + 2, 40, 0, "class", "method none number", fill, "const 20", "array", "drop", "return");
         arrayLooksAtItsNumberFirst(fill);
+        thingsLieApart();
+    }
+
+    /** A chain of 20 objects with an array of 20 each: every number in them keeps its own value. */
+    private static void thingsLieApart() {
+        TypedEngine x = new Asm("class object0 array number",
+            "method number / object0 object0 number number",
+            "const 20 set 2",
+            "a: new 0 set 1  get 1 get 0 store 0.0  get 1 const 20 array store 0.1  get 1 get 2 store 0.2  get 1 set 0",
+            "get 0 get 2 call 1  get 2 const 1 sub dup set 2 if a",
+            "b: get 0 call 2 get 3 add set 3  get 0 field 0.0 set 0  get 2 const 1 add dup set 2 const 20 less b",
+            "get 3 return",
+            "method none object0 number / number",
+            "a: arg 0 field 0.1 get 0 arg 1 const 20 mul get 0 add keep  get 0 const 1 add dup set 0 const 20 less a return",
+            "method number object0 / number number",
+            "a: arg 0 field 0.1 get 0 item  arg 0 field 0.2 const 20 mul get 0 add  sub if w",
+            "get 1 const 1 add set 1  w: get 0 const 1 add dup set 0 const 20 less a  get 1 return").engine();
+        x.start(0, 0, 0);
+        for (int i = 0; i < 60; i++) {
+            x.step(500);
+        }
+        Check.due("it is over", x.state(), 2);
+        Check.due("40 were made", x.look(4), 40);
+        Check.due("all 400 numbers are as they were kept", x.result(), 400);
+        localsLieApart();
+        fieldsOfPairsLieApart();
+    }
+
+    /** Eight active methods with four locals each: every local keeps its own value. */
+    private static void localsLieApart() {
+        gives(88, 7, 0, "method number number / number number number number",
+            "arg 0 set 0 arg 0 const 10 add set 1 arg 0 const 20 add set 2 arg 0 const 30 add set 3",
+            "arg 0 if a const 0 go b", "a: arg 0 const 1 sub call 0",
+            "b: get 0 arg 0 sub const 1 add add",
+            "get 1 get 0 sub const 9 sub add get 2 get 1 sub const 10 sub const 9 add add get 3 get 2 sub const 10 sub add return");
+    }
+
+    private static void fieldsOfPairsLieApart() {
+        gives(12, 0, 0, "class pair pair pair pair", "method number / object0 object0", "new 0 set 0 new 0 set 1",
+            "get 0 const 1 const 2 pair store 0.0 get 0 const 3 const 4 pair store 0.1 get 0 const 5 const 6 pair store 0.3",
+            "get 1 const 7 const 8 pair store 0.0", "get 0 field 0.0 first const 10 mul get 0 field 0.0 second add",
+            "get 0 field 0.2 second add return");
     }
 
     private static void arrayLooksAtItsNumberFirst(String fill) {

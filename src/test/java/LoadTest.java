@@ -6,6 +6,7 @@ public final class LoadTest {
         marksRegionsAndCode();
         everyCutIsRefused();
         loadTakesThePlaceOfTheFormer();
+        nothingStaysOfFormerImages();
         refusedLoadChangesNothing();
         Check.finish("LoadTest");
     }
@@ -165,6 +166,37 @@ public final class LoadTest {
         Check.due("verified(0)", x.verified(0), true);
         Check.due("verified(1)", x.verified(1), false);
         Check.due("shorter code: depth(0, 1)", x.depth(0, 1), -1);
+    }
+
+    /** A small image behind large ones has none of what was theirs. */
+    private static void nothingStaysOfFormerImages() {
+        TypedEngine x = new TypedEngine();
+        int[] large = new Asm("class number number number number", "class number number number number",
+            "class number number number number", "class number number number number",
+            "method none number number number / number number number number", "region a b c finally", "region e f g finally",
+            "a: leave c", "b: done", "c: call 1", "leave e2", "nop", "e: leave g", "f: done", "g: e2: return",
+            "method none", "drop", "return",
+            "method number", "const 1", "return").bytes();
+        String[] small = {"get 1", "arg 1", "spot 1", "const 1 set 1", "const 1 put 1", "new 1", "null object1", "new 0 field 0.1",
+            "new 0 at 0.2", "call 2", "done", "get 4", "arg 3"};
+        for (String code : small) {
+            for (int i = 0; i < 2; i++) {
+                Check.due("the large one", Asm.load(x, large), 3);
+                Check.due("its method 0", x.verified(0), true);
+                Check.due("its start", x.start(0, 0, 0), false);
+            }
+            Check.due("the small one", Asm.load(x, new Asm("class number", "method none number / number", code, "return",
+                "method none", "drop", "return").bytes()), 2);
+            Check.due(code + " names what is not there any more", x.verified(0), false);
+            Check.due("verified(2)", x.verified(2), false);
+        }
+        Asm.load(x, large);
+        Asm.load(x, large);
+        Asm.load(x, new Asm("method number number / number", "nop nop leave a", "a: arg 0", "return", "method none", "drop", "return").bytes());
+        Check.due("the calls of the former are gone", x.start(0, 6, 0), true);
+        x.step(500);
+        Check.due("so are its regions: result", x.result(), 6);
+        Check.due("so are its regions: entered(0, 0)", x.entered(0, 0), 0);
     }
 
     private static void refusedLoadChangesNothing() {

@@ -204,6 +204,7 @@ public final class VerifyTest {
         for (String op : none) {
             due("named and not there", false, with(head, op, "return"));
         }
+        full();
         due("field there", true, with(head, "new 2", "field 2.3", "return"));
         due("place of a field there", true, with(head, "new 2", "at 2.3", "return"));
         due("field that is none", false, with(head, "new 0", "field 0.2", "return"));
@@ -228,6 +229,21 @@ public final class VerifyTest {
         due("a missing argument", false, with(head, "arg 1", "call 0", "return"));
         due("no result to take", false, with(head, "const 1", "arg 1", "call 0", "drop", "return"));
         due("a result to take", true, with(head, "call 1", "first", "drop", "return", "method pair", "get 0", "return"));
+    }
+
+    /** Where there are as many as there may be, one more is none. */
+    private static void full() {
+        String[] head = {"class", "class", "class", "class number number number number",
+            "method none number number number / number number number number"};
+        String[] tail = {"method none", "return", "method none", "return", "method none", "return", "method none", "return", "method none", "return"};
+        String[] last = {"get 3", "arg 2", "spot 3", "new 3", "null object3", "new 3 field 3.3", "const 1 set 3", "const 1 put 2", "call 5"};
+        String[] none = {"get 4", "arg 3", "spot 4", "new 4", "null 12", "new 3 field 4.0", "const 1 set 4", "const 1 put 3", "call 6"};
+        for (int i = 0; i < last.length; i++) {
+            due("the last of its kind", true, with(with(head, last[i], "return"), tail));
+            due("one behind the last", false, with(with(head, none[i], "return"), tail));
+        }
+        due("three regions in a row", true, "method none", "region 0 2 3 catch", "region 4 6 7 catch", "region 8 10 11 finally",
+            "leave 3", "throw", "nop", "leave 7", "throw", "nop", "leave 11", "done", "nop", "return");
     }
 
     private static void howCodeLies() {
@@ -425,6 +441,8 @@ public final class VerifyTest {
         due("a leave comes with none", false, "method none", "const 1", "leave c", "c: drop", "return");
         due("a leave where others come with a stack", false, "method none", "const 1", "const 1", "if d", "leave d", "d: return");
         due("a leave outside of regions", true, "method none", "const 1", "leave c", "nop", "c: return");
+        TypedEngine x = new Asm("method none", "nop nop nop nop return", "method none", "go 3", "const 34", "return").engine();
+        Check.due("a beginning of another method only", x.verified(1), false);
         due("a leave back", true, "method none", "c: nop", "leave c");
         due("a leave into a part", false, "method none", "region a b c catch", "leave a", "a: leave c", "b: drop", "leave c", "c: return");
         due("a leave within a part", true, "method none", "region a b c catch", "a: const 1", "leave d", "d: leave c", "b: drop", "leave c", "c: return");
