@@ -18,11 +18,12 @@ public final class TypedEngine {
     public TypedEngine() {
         drafted = new int[DRAFT_MOST];
         draftSize = 0;
-        image = new Image();
+        Image empty = new Image();
+        image = empty;
         spare = new Image();
-        reader = new Reader(drafted);
-        verifier = new Verifier(image);
-        run = new Run(image);
+        reader = new Reader();
+        verifier = new Verifier(empty);
+        run = new Run(empty);
     }
 
     public boolean draft(long v, int n) {
@@ -41,7 +42,7 @@ public final class TypedEngine {
     }
 
     public int load() {
-        if (!reader.readInto(spare, draftSize)) {
+        if (!reader.readInto(spare, drafted, draftSize)) {
             return -1;
         }
         Image read = spare;
@@ -417,11 +418,11 @@ public final class TypedEngine {
             return c >= 0 && c < classCount;
         }
 
-        /** The type of the field that an instruction's k names, with its class's type below. */
+        /** The type of the field that an instruction's k names; NOTHING if there is none. */
         int fieldType(int k) {
             int c = k / FIELDS_MOST;
-            boolean there = k >= 0 && hasClass(c) && k % FIELDS_MOST < fieldCounts[c];
-            return there ? fieldTypes[k] : Type.NOTHING;
+            boolean isThere = k >= 0 && hasClass(c) && k % FIELDS_MOST < fieldCounts[c];
+            return isThere ? fieldTypes[k] : Type.NOTHING;
         }
 
         /** Whether null can be of that type. */
@@ -432,7 +433,8 @@ public final class TypedEngine {
         /** Whether method m, and all that it can come to call, are verified. */
         boolean callsVerifiedAlone(int m) {
             int known = 1 << m;
-            // A chain of calls to a method that is new in it has no more links than methods.
+            // Each round but the last finds a method that was not known, so there are no more
+            // rounds than methods.
             for (int round = 0; round < methodCount; round++) {
                 for (int other = 0; other < methodCount; other++) {
                     if ((known >> other & 1) == 1) {
@@ -454,17 +456,18 @@ public final class TypedEngine {
     private static final class Reader {
         private static final int MARK = 77;
 
-        private final int[] bytes;
+        private int[] bytes;
         private int size;
         private int next;
         private boolean isRight;
 
-        Reader(int[] bytes) {
-            this.bytes = bytes;
+        Reader() {
+            bytes = new int[0];
         }
 
-        boolean readInto(Image image, int howMany) {
-            size = howMany;
+        boolean readInto(Image image, int[] from, int howMany) {
+            bytes = from;
+            size = Math.min(howMany, from.length);
             next = 0;
             isRight = true;
             number(MARK, MARK);
@@ -487,10 +490,10 @@ public final class TypedEngine {
         }
 
         private void readMethod(Image image, Method method) {
-            method.result = nextIs(Type.NOTHING) ? number(0, 0) : keptType(image);
+            method.result = nextIs(Type.NOTHING) ? number(Type.NOTHING, Type.NOTHING) : keptType(image);
             method.argumentCount = number(0, Method.ARGUMENTS_MOST);
             for (int k = 0; k < method.argumentCount; k++) {
-                method.argumentTypes[k] = nextIs(Type.PLACE) ? number(0, 255) : keptType(image);
+                method.argumentTypes[k] = nextIs(Type.PLACE) ? number(Type.PLACE, Type.PLACE) : keptType(image);
             }
             method.localCount = number(0, Method.LOCALS_MOST);
             for (int k = 0; k < method.localCount; k++) {

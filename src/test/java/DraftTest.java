@@ -139,6 +139,13 @@ public final class DraftTest {
         Check.due("step(500)", x.step(500), 77);
         Check.due("draft(0, 1)", x.draft(0, 1), false);
         Check.due("load() again", x.load(), 4);
+        int[] places = {2, at - 78};
+        for (int place : places) {
+            int[] wanting = bytes.clone();
+            wanting[place]++;
+            Check.due("400 bytes of an image that has more", Asm.load(x, wanting), -1);
+            Check.due("the image stays", x.verified(3), true);
+        }
     }
 
     private static void clearEmptiesTheDraftAlone() {

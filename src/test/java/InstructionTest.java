@@ -267,6 +267,8 @@ public final class InstructionTest {
         Check.due("40 were made", x.look(4), 40);
         Check.due("all 400 numbers are as they were kept", x.result(), 400);
         localsLieApart();
+        gives(50, 7, 0, "method number number / array", "const 1 array set 0 get 0 const 0 const 50 keep arg 0 call 1 get 0 const 0 item return",
+            "method none number / number number number number", "arg 0 const 1 sub dup put 0 if a return", "a: arg 0 call 1 return");
         fieldsOfPairsLieApart();
     }
 
