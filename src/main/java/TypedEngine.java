@@ -184,13 +184,16 @@ public final class TypedEngine {
         /** The row with the type on top; NONE if it is full or there is no such type. */
         static int with(int row, int type) {
             int size = size(row);
-            return size >= MOST || type == Type.NOTHING ? NONE : row | (type << (4 * size));
+            if (row == NONE || size >= MOST || type == Type.NOTHING) {
+                return NONE;
+            }
+            return row | (type << (4 * size));
         }
 
         /** The row without the type on top; NONE if that is not on top. */
         static int without(int row, int type) {
             int last = size(row) - 1;
-            if (last < 0 || type == Type.NOTHING || typeAt(row, last) != type) {
+            if (row == NONE || last < 0 || type == Type.NOTHING || typeAt(row, last) != type) {
                 return NONE;
             }
             return row & ~(15 << (4 * last));
@@ -742,8 +745,9 @@ public final class TypedEngine {
         }
 
         private int rowBehindThing(int op, int k, int row) {
-            int object = Type.OBJECT + k / Image.FIELDS_MOST;
             int field = image.fieldType(k);
+            // A field that is there has a class that is there, so that no other number is a type.
+            int object = field == Type.NOTHING ? Type.NOTHING : Type.OBJECT + k / Image.FIELDS_MOST;
             switch (op) {
                 case Op.NULL:
                     return Row.with(row, image.canBeNull(k) ? k : Type.NOTHING);

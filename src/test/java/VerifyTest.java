@@ -205,6 +205,7 @@ public final class VerifyTest {
             due("named and not there", false, with(head, op, "return"));
         }
         full();
+        everyK();
         due("field there", true, with(head, "new 2", "field 2.3", "return"));
         due("place of a field there", true, with(head, "new 2", "at 2.3", "return"));
         due("field that is none", false, with(head, "new 0", "field 0.2", "return"));
@@ -229,6 +230,35 @@ public final class VerifyTest {
         due("a missing argument", false, with(head, "arg 1", "call 0", "return"));
         due("no result to take", false, with(head, "const 1", "arg 1", "call 0", "drop", "return"));
         due("a result to take", true, with(head, "call 1", "first", "drop", "return", "method pair", "get 0", "return"));
+    }
+
+    /** Every byte as what an instruction names, with any type below it on the stack. */
+    private static void everyK() {
+        String[] head = {"class number pair", "class", "class array object0 number", "method none number pair / number pair array"};
+        int[][] fields = {{1, 2}, {}, {4, 8, 1}};
+        String[] below = {"const 1", "arg 1", "new 0", "new 1", "new 2", "null array", "nop"};
+        String[] onTop = {"const 1", "arg 1", "new 0", "null array"};
+        int[] types = {1, 2, 8, 4};
+        for (int k = 0; k <= 255; k++) {
+            int c = k / 4;
+            int field = c < 3 && k % 4 < fields[c].length ? fields[c][k % 4] : 0;
+            for (String low : below) {
+                boolean isObject = field != 0 && low.equals("new " + c);
+                due("field " + k, isObject, with(head, low, "byte 18 byte " + k, "return"));
+                due("at " + k, isObject && field == 1, with(head, low, "byte 20 byte " + k, "return"));
+                for (int i = 0; i < onTop.length; i++) {
+                    due("store " + k, isObject && field == types[i], with(head, low, onTop[i], "byte 19 byte " + k, "return"));
+                }
+            }
+            due("get " + k, k < 3, with(head, "byte 2 byte " + k, "return"));
+            due("set " + k, k < 1, with(head, "const 1", "byte 3 byte " + k, "return"));
+            due("spot " + k, k < 1, with(head, "byte 4 byte " + k, "return"));
+            due("arg " + k, k < 2, with(head, "byte 5 byte " + k, "return"));
+            due("put " + k, k < 1, with(head, "const 1", "byte 6 byte " + k, "return"));
+            due("null " + k, k == 4 || k == 5 || k >= 8 && k <= 10, with(head, "byte 16 byte " + k, "return"));
+            due("new " + k, k < 3, with(head, "byte 17 byte " + k, "return"));
+            due("call " + k, k == 1, with(head, "byte 33 byte " + k, "return", "method none", "return"));
+        }
     }
 
     /** Where there are as many as there may be, one more is none. */
