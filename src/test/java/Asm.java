@@ -75,6 +75,9 @@ final class Asm {
     }
 
     private void readLine(List<String> words) {
+        if (words.get(0).isEmpty()) {
+            return;
+        }
         if (words.get(0).equals("class")) {
             List<Integer> fields = new ArrayList<>();
             for (String word : words.subList(1, words.size())) {

@@ -170,7 +170,6 @@ public final class LoadTest {
 
     /** A small image behind large ones has none of what was theirs. */
     private static void nothingStaysOfFormerImages() {
-        TypedEngine x = new TypedEngine();
         int[] large = new Asm("class number number number number", "class number number number number",
             "class number number number number", "class number number number number",
             "method none number number number / number number number number", "region a b c finally", "region e f g finally",
@@ -180,6 +179,7 @@ public final class LoadTest {
         String[] small = {"get 1", "arg 1", "spot 1", "const 1 set 1", "const 1 put 1", "new 1", "null object1", "new 0 field 0.1",
             "new 0 at 0.2", "call 2", "done", "get 4", "arg 3"};
         for (String code : small) {
+            TypedEngine x = new TypedEngine();
             for (int i = 0; i < 2; i++) {
                 Check.due("the large one", Asm.load(x, large), 3);
                 Check.due("its method 0", x.verified(0), true);
@@ -190,6 +190,7 @@ public final class LoadTest {
             Check.due(code + " names what is not there any more", x.verified(0), false);
             Check.due("verified(2)", x.verified(2), false);
         }
+        TypedEngine x = new TypedEngine();
         Asm.load(x, large);
         Asm.load(x, large);
         Asm.load(x, new Asm("method number number / number", "nop nop leave a", "a: arg 0", "return", "method none", "drop", "return").bytes());
