@@ -19,6 +19,7 @@ public final class CodeBoundsTest {
         nextWithinTheCode();
         allAreTold();
         theCodeEndsWithOne();
+        partAndHandler();
         orderOfARegion();
         endOfARegion();
         beginningsOfARegion();
@@ -303,6 +304,23 @@ public final class CodeBoundsTest {
             lines = join(lines, "region " + region[0] + " " + region[1] + " " + region[2] + " catch");
         }
         return new Asm(join(lines, times(size, "return"))).engine().verified(0);
+    }
+
+    private static void partAndHandler() {
+        Check.sentence("A REGION has a PART that is kept, from FROM to before MIDDLE, and a HANDLER, from MIDDLE to before END.");
+        // MIDDLE is reached as soon as a place of the part is.
+        String[][] reached = {{"s: leave s a: nop b: done c: return", "-1"}, {"nop a: leave a b: done c: return", "0"}, {"go c a: nop b: done c: leave c", "-1"}};
+        for (String[] one : reached) {
+            Asm asm = new Asm("method none", "region a b c finally", one[0]);
+            Check.due(one[0] + ": verified", asm.engine().verified(0), true);
+            Check.due(one[0] + ": depth of MIDDLE", asm.engine().depth(0, asm.at(0, "b")), Integer.parseInt(one[1]));
+        }
+        due("a done, the last before END", true, "method none", "region a b c finally", "a: leave c b: nop done c: return");
+        due("a done at MIDDLE", true, "method none", "region a b c finally", "a: leave c b: done c: return");
+        due("a done, the last before MIDDLE", false, "method none", "region a b c finally", "a: nop done b: done c: return");
+        due("a done at END", false, "method none", "region a b c finally", "a: leave c b: done c: done");
+        due("a return at END", true, "method none", "region a b c finally", "a: leave c b: done c: return");
+        due("a return, the last before FROM", true, "method none number", "region a b c finally", "arg 0 if a return a: leave c b: done c: return");
     }
 
     private static void orderOfARegion() {
