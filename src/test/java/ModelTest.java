@@ -1,24 +1,30 @@
 import java.util.Arrays;
 import java.util.Random;
 
-/** TypedEngine and the model get the same calls, on images made at random, and answer alike. */
+/**
+ * TypedEngine and the model get the same calls, on images made at random, and answer alike. As an object is
+ * used for at most 512 calls, another one that gets the same past takes its place in time.
+ */
 public final class ModelTest {
     private static final int IMAGES = 12000;
-    private static final int AN_OBJECT = 20;
+    private static final int CALLS = 512;
+    private static final int STEPS = 500;
+    // More than verify asks of a place, and than a start or step with compare behind it.
+    private static final int QUESTIONS = 60;
 
     private static final Random RANDOM = new Random(7);
     private static TypedEngine x;
     private static Model y;
     private static int[] image;
+    // The calls that x was given, the start that was accepted last, and the steps that were done since.
+    private static int calls;
+    private static int[] started;
+    private static int steps;
     private static final int[] SEEN = new int[8];
 
     public static void main(String[] args) {
         Programs programs = new Programs(args.length > 0 ? Long.parseLong(args[0]) : 1);
         for (int i = 0; i < IMAGES; i++) {
-            if (i % AN_OBJECT == 0) {
-                x = new TypedEngine();
-                y = new Model();
-            }
             image = programs.next();
             loadBoth();
             for (int m = -1; m <= 6; m++) {
@@ -37,10 +43,10 @@ public final class ModelTest {
     }
 
     private static void due(String call, long got, long want) {
+        calls++;
+        Check.due("an object's calls", calls <= CALLS, true);
         if (got != want) {
             Check.due(call + " with " + Arrays.toString(image), got, want);
-        } else {
-            Check.due(call, got, want);
         }
     }
 
@@ -49,8 +55,10 @@ public final class ModelTest {
     }
 
     private static void loadBoth() {
-        x.clear();
-        y.clear();
+        x = new TypedEngine();
+        y = new Model();
+        calls = 0;
+        started = null;
         int at = 0;
         while (at < image.length) {
             int n = Math.min(1 + RANDOM.nextInt(8), image.length - at);
@@ -66,12 +74,32 @@ public final class ModelTest {
         SEEN[0] += loaded > 0 ? 1 : 0;
     }
 
+    /** Another object with the same past, if this one can't be asked that much any more. */
+    private static void renew() {
+        if (calls + QUESTIONS <= CALLS) {
+            return;
+        }
+        x = new TypedEngine();
+        Asm.load(x, image);
+        calls = 2 + (image.length + 7) / 8;
+        if (started != null) {
+            x.start(started[0], started[1], started[2]);
+            calls++;
+            for (int rest = steps; rest > 0; rest -= STEPS) {
+                x.step(Math.min(rest, STEPS));
+                calls++;
+            }
+        }
+    }
+
     private static void verify(int m) {
+        renew();
         due("verified", x.verified(m), y.verified(m));
         if (y.verified(m)) {
             SEEN[1]++;
         }
         for (int p = -1; p <= 101; p++) {
+            renew();
             int depth = y.depth(m, p);
             due("depth", x.depth(m, p), depth);
             for (int i = -1; i <= depth; i++) {
@@ -83,21 +111,24 @@ public final class ModelTest {
     private static void run(int m) {
         int a = RANDOM.nextInt(4) - 1;
         int b = RANDOM.nextBoolean() ? RANDOM.nextInt() : RANDOM.nextInt(5);
-        boolean started = y.start(m, a, b);
-        due("start", x.start(m, a, b), started);
-        if (!started) {
-            compare();
+        boolean begun = y.start(m, a, b);
+        renew();
+        due("start", x.start(m, a, b), begun);
+        compare();
+        if (!begun) {
             return;
         }
+        started = new int[] {m, a, b};
+        steps = 0;
         SEEN[2]++;
-        int rounds = 0;
-        while (y.state() == 1 && rounds < 120) {
-            compare();
+        for (int rounds = 0; y.state() == 1 && rounds < 120; rounds++) {
             int n = rounds < 100 ? 1 : RANDOM.nextInt(60);
-            due("step", x.step(n), y.step(n));
-            rounds++;
+            renew();
+            int count = y.step(n);
+            due("step", x.step(n), count);
+            steps += count;
+            compare();
         }
-        compare();
         SEEN[3] += y.state() == 2 ? 1 : 0;
         SEEN[4] += y.state() == 3 && y.result() >= 1 && y.result() <= 5 ? 1 : 0;
         SEEN[5] += y.state() == 3 && (y.result() < 1 || y.result() > 5) ? 1 : 0;

@@ -81,7 +81,7 @@ final class Unchanged {
     }
 
     private static void askOfTheRun(TypedEngine x, List<Integer> answers) {
-        for (int i = 0; i < 40; i++) {
+        for (int i = 0; i < 32; i++) {
             answers.add(x.step(1));
             answers.add(x.state());
             answers.add(x.result());
